@@ -14,6 +14,7 @@ public final class GoesInto {
     private static final int BOUND = 50000;
     private static final int WISH_BOUND = 5000;
     private static final int HOW_MANY = -1;
+    private static final int WIDEST_GAP = 1093;
     private static final int ALL = 0, BUT_ITSELF = 1, APART = 2, INNER = 3;
 
     private final Primes primes;
@@ -286,6 +287,21 @@ public final class GoesInto {
         return false;
     }
 
+    /** By gaps that shrink to 1 (1093, 364, 121, 40, 13, 4, 1), which needs no second row. */
+    private static void putInOrder(long[] row, int many) {
+        for (int gap = WIDEST_GAP; gap >= 1; gap /= 3) {
+            for (int i = gap; i < many && i < row.length; i++) {
+                long moved = row[i];
+                int free = i;
+                for (int j = i - gap; j >= 0 && row[j] > moved; j -= gap) {
+                    row[free] = row[j];
+                    free = j;
+                }
+                row[free] = moved;
+            }
+        }
+    }
+
     /** One long row that several classes use in turn; none may count on what it left there. */
     private static final class Scratch {
         private int[] row = new int[0];
@@ -497,36 +513,13 @@ public final class GoesInto {
                     from += block;
                 }
             }
-            Order.rise(parts, partsKept);
+            putInOrder(parts, partsKept);
         }
 
         private void appendMultiples(int from, int block, long p) {
             for (int j = from; j < from + block && j < partsKept && partsKept < MOST_PARTS; j++) {
                 parts[partsKept] = parts[j] * p;
                 partsKept++;
-            }
-        }
-    }
-
-    /** Puts rows of numbers in order. */
-    private static final class Order {
-        private static final int WIDEST = 1093;
-
-        private Order() {
-        }
-
-        /** By gaps that shrink to 1 (1093, 364, 121, 40, 13, 4, 1), which needs no second row. */
-        static void rise(long[] row, int many) {
-            for (int gap = WIDEST; gap >= 1; gap /= 3) {
-                for (int i = gap; i < many && i < row.length; i++) {
-                    long moved = row[i];
-                    int free = i;
-                    for (int j = i - gap; j >= 0 && row[j] > moved; j -= gap) {
-                        row[free] = row[j];
-                        free = j;
-                    }
-                    row[free] = moved;
-                }
             }
         }
     }
@@ -681,12 +674,35 @@ public final class GoesInto {
         }
     }
 
+    /** Picks one of the numbers that fit, by its place among them, or tells how many there were. */
+    private static final class Pick {
+        private int wanted = HOW_MANY;
+        private int seen = 0;
+
+        void begin(int i) {
+            wanted = i;
+            seen = 0;
+        }
+
+        /** Is told of each number that fits, in turn. */
+        boolean isNext() {
+            boolean found = seen == wanted;
+            seen++;
+            return found;
+        }
+
+        int notFound() {
+            return wanted == HOW_MANY ? seen : NONE;
+        }
+    }
+
     /** Looks for numbers up to a bound, from 1 on. */
     private static final class Seeker {
         private static final int UNKNOWN = 0, ON_THE_WAY = -1, NEVER = -2;
 
         private final Tables tables;
         private final Scratch scratch;
+        private final Pick pick = new Pick();
 
         Seeker(Tables tables, Scratch scratch) {
             this.tables = tables;
@@ -694,16 +710,13 @@ public final class GoesInto {
         }
 
         int ringAt(int kind, int length, int bound, int i) {
-            int seen = 0;
+            pick.begin(i);
             for (int n = 1; n <= bound; n++) {
-                if (beginsRing(kind, length, bound, n)) {
-                    if (seen == i) {
-                        return n;
-                    }
-                    seen++;
+                if (beginsRing(kind, length, bound, n) && pick.isNext()) {
+                    return n;
                 }
             }
-            return i == HOW_MANY ? seen : NONE;
+            return pick.notFound();
         }
 
         private boolean beginsRing(int kind, int length, int bound, int least) {
@@ -721,30 +734,25 @@ public final class GoesInto {
         }
 
         int havingAt(int kind, int m, int bound, int i) {
-            int seen = 0;
+            pick.begin(i);
             for (int n = 1; n <= bound; n++) {
-                if (tables.summed(kind, n) == m) {
-                    if (seen == i) {
-                        return n;
-                    }
-                    seen++;
+                if (tables.summed(kind, n) == m && pick.isNext()) {
+                    return n;
                 }
             }
-            return i == HOW_MANY ? seen : NONE;
+            return pick.notFound();
         }
 
         int friendAt(int n, int bound, int i) {
             long sumOfN = tables.summed(ALL, n);
-            int seen = 0;
+            pick.begin(i);
             for (int other = 1; other <= bound; other++) {
-                if (other != n && (long) tables.summed(ALL, other) * n == sumOfN * other) {
-                    if (seen == i) {
-                        return other;
-                    }
-                    seen++;
+                boolean sameShare = (long) tables.summed(ALL, other) * n == sumOfN * other;
+                if (other != n && sameShare && pick.isNext()) {
+                    return other;
                 }
             }
-            return i == HOW_MANY ? seen : NONE;
+            return pick.notFound();
         }
 
         int firstReaching(int a, int b, int bound) {
@@ -760,20 +768,19 @@ public final class GoesInto {
         int recordAt(int sort, int bound, int i) {
             long bestSum = 0;
             long bestMeasure = 1;
-            int seen = 0;
+            pick.begin(i);
             for (int n = 1; n <= bound; n++) {
                 long sumOfN = tables.summed(ALL, n);
                 long measure = sort == 0 ? 1 : n;
                 if (sumOfN * bestMeasure > bestSum * measure) {
-                    if (seen == i) {
+                    if (pick.isNext()) {
                         return n;
                     }
-                    seen++;
                     bestSum = sumOfN;
                     bestMeasure = measure;
                 }
             }
-            return i == HOW_MANY ? seen : NONE;
+            return pick.notFound();
         }
 
         int howManyFall(int kind, int m, int k, int bound) {
@@ -856,7 +863,7 @@ public final class GoesInto {
                 keepFound(1);
             }
             join(m, 1, 0, 0);
-            Order.rise(found, many);
+            putInOrder(found, many);
         }
 
         int howMany() {
@@ -904,7 +911,7 @@ public final class GoesInto {
                 for (int e = 2; e < 64 && sumOfPower < m; e++) {
                     q *= p;
                     sumOfPower += q;
-                    if (m % sumOfPower == 0) {
+                    if (sumOfPower > 1 && m % sumOfPower == 0) {
                         keepPower(p, q, sumOfPower);
                     }
                 }
@@ -1112,6 +1119,7 @@ public final class GoesInto {
         private static final int HIGHEST_PILE = 8;
 
         private final Traits traits;
+        private final Pick pick = new Pick();
         private final int[] text = new int[LONGEST];
         private int length = 0;
 
@@ -1166,16 +1174,13 @@ public final class GoesInto {
         }
 
         int numberAt(int bound, int i) {
-            int seen = 0;
+            pick.begin(i);
             for (int n = 1; n <= bound; n++) {
-                if (agrees(n)) {
-                    if (seen == i) {
-                        return n;
-                    }
-                    seen++;
+                if (agrees(n) && pick.isNext()) {
+                    return n;
                 }
             }
-            return i == HOW_MANY ? seen : NONE;
+            return pick.notFound();
         }
 
         /** The pile is kept in bits, the topmost the lowest. */
