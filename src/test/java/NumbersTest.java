@@ -20,6 +20,7 @@ public final class NumbersTest {
             lookAt(n);
         }
         chains();
+        firstCalls();
         check.finish();
     }
 
@@ -48,13 +49,26 @@ public final class NumbersTest {
         check.due("share(" + n + ", 1)", users.next().share(n, 1), n / common);
     }
 
+    /** A new object's first call meets nothing that was kept. */
+    private static void firstCalls() {
+        for (long n = 1; n <= 12; n++) {
+            check.due("first: sum(0, " + n + ")", new GoesInto().sum(0, n), Oracle.sum(0, n));
+            check.due("first: part(" + n + ", -1)", new GoesInto().part(n, -1), Oracle.parts(n).size());
+            check.due("first: part(" + n + ", 0)", new GoesInto().part(n, 0), 1);
+            check.due("first: prime(" + n + ", -1)", new GoesInto().prime(n, -1), Oracle.primes(n).size());
+            check.due("first: chain(1, " + n + ", 1)", new GoesInto().chain(1, n, 1), Oracle.walk(1, n).tail);
+            check.due("first: step(3, " + n + ", 1)", new GoesInto().step(3, n, 1), Oracle.walk(3, n).step(1));
+            check.due("first: share(" + n + ", 1)", new GoesInto().share(n, 1), n / Oracle.gcd(n, Oracle.sum(0, n)));
+        }
+    }
+
     private static void chains() {
         for (int kind = 1; kind <= 3; kind++) {
             for (long n = 1; n <= 130; n++) {
                 walk(kind, n);
             }
         }
-        // ENDS with 0 as the last of 200 more, and one number more ahead of it
+        // ENDS with 0 as the last of 200 more
         walk(1, 192920);
         walk(2, 52770);
         check.due("chain(1, 192920, 0)", users.next().chain(1, 192920, 0), 0);
@@ -70,6 +84,12 @@ public final class NumbersTest {
         check.due("chain(1, 5082, 0)", users.next().chain(1, 5082, 0), 2);
         check.due("chain(1, 5082, 1)", users.next().chain(1, 5082, 1), 201);
         check.due("step(1, 5082, 201)", users.next().step(1, 5082, 201), GoesInto.NONE);
+        // LOST, though 0 or a number that was there would come behind 200 more
+        walk(1, 152680);
+        walk(2, 33630);
+        walk(2, 17850);
+        check.due("chain(1, 152680, 0)", users.next().chain(1, 152680, 0), 2);
+        check.due("chain(2, 17850, 0)", users.next().chain(2, 17850, 0), 2);
         // LOST by the last of 200 more
         walk(2, 130866);
         check.due("chain(2, 130866, 1)", users.next().chain(2, 130866, 1), 200);
