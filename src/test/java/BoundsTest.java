@@ -85,10 +85,13 @@ public final class BoundsTest {
         Random random = new Random(9);
         for (int m = 1; m <= most; m++) {
             List<Integer> due = by.get(m) == null ? List.of() : by.get(m);
-            // 961 is 31 by 31, and 31 is the sum of 16 and of 25
+            int wanted = m;
             if (m <= 400 || m == 961 || m == most || m % 10080 == 0 || due.size() > 250 || random.nextInt(2000) == 0) {
-                int wanted = m;
                 list("wholly(" + m, due, i -> users.next().wholly(wanted, i));
+            } else {
+                check.due("wholly(" + m + ", -1)", users.next().wholly(m, -1), due.size());
+                check.due("wholly(" + m + ", the last)", users.next().wholly(m, due.size() - 1),
+                    due.isEmpty() ? 0 : due.get(due.size() - 1));
             }
         }
     }
