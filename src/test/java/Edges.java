@@ -39,7 +39,7 @@ final class Edges {
         underIt = 0;
     }
 
-    /** An answer of a new object, and once more when it has been asked. */
+    /** An answer of a new object, once more at once, and once more when it has been asked for much else. */
     void told(String call, long want, Call asked) {
         toldWith("", call, want, asked);
     }
@@ -48,6 +48,8 @@ final class Edges {
         GoesInto x = withText(text);
         due(call, asked.on(x), want);
         due(call + ", asked again", asked.on(x), want);
+        look(x, PICTURE, new long[PICTURE.length], 0);
+        due(call + " of a used object", asked.on(x), want);
     }
 
     void due(String call, long got, long want) {

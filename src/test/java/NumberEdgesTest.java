@@ -155,6 +155,15 @@ public final class NumberEdgesTest {
                 edges.bad("chain(" + kind + ", 30, " + w + ")", x -> x.chain(kind, 30, w));
             }
         }
+        edges.sentence("5: each KIND has a CHAIN of its own");
+        GoesInto one = new GoesInto();
+        long[] tails = {15, 0, 2};
+        long[] next = {42, 42, 41};
+        for (int time = 0; time < 6; time++) {
+            int kind = time % 3 + 1;
+            edges.due("chain(" + kind + ", 30, 1) of one object", one.chain(kind, 30, 1), tails[kind - 1]);
+            edges.due("step(" + kind + ", 30, 1) of one object", one.step(kind, 30, 1), next[kind - 1]);
+        }
         edges.sentence("5: n is 1 to 10 to the 10");
         for (int kind = 1; kind <= 3; kind++) {
             int k = kind;
@@ -198,6 +207,8 @@ public final class NumberEdgesTest {
         chainIs(1, 220, 1, 0, 2, 284);
         chainIs(1, 284, 1, 0, 2, 284);
         chainIs(1, 562, 1, 1, 2, 562);
+        chainIs(2, 100, 1, 1, 3, 100);
+        chainIs(2, 140, 1, 2, 3, 140);
         chainIs(1, 14316, 1, 0, 28, 629072);
     }
 
@@ -270,6 +281,12 @@ public final class NumberEdgesTest {
         for (int i = 0; i < ring.length; i++) {
             stepIs(1, 562, i, ring[i]);
         }
+        long[] longer = {140, 100, 30, 42, 54, 30, 42, 54, 30};
+        for (int i = 0; i < longer.length; i++) {
+            stepIs(2, 140, i, longer[i]);
+        }
+        // the greatest place is one more than threes
+        stepIs(2, 140, Integer.MAX_VALUE, 54);
         stepIs(1, 562, Integer.MAX_VALUE - 1, 220);
         stepIs(1, 562, Integer.MAX_VALUE, 284);
         stepIs(1, 25, 1, 6);
